@@ -727,7 +727,7 @@ public final class EarCode {
             at++;
         }
 
-        /** The number that stands here, which is read then; NONE, and it is not, if it is out of these bounds. */
+        /** The number that stands here, and goes on; NONE, and stays, if it is out of these bounds. */
         int numberWithin(int low, int high) {
             int value = value();
             if (kind() != NUMBER || value < low || value > high) {
@@ -813,23 +813,17 @@ public final class EarCode {
             }
         }
 
-        int forbidding(int matter, int who, int known, int day) {
-            return bearing(~always, matter, who, known, day);
-        }
-
-        int demanding(int matter, int who, int known, int day) {
-            return bearing(always, matter, who, known, day);
-        }
-
         int never() {
             return ~always & (1 << clauses) - 1;
         }
 
-        private int bearing(int among, int matter, int who, int known, int day) {
+        /** CLAUSES that DEMAND this MATTER of this CITIZEN, or those that FORBID it, as bits. */
+        int bearing(boolean demands, int matter, int who, int known, int day) {
             int bits = 0;
             int deed = matter / PLACES;
+            int kind = demands ? 1 : 0;
             for (int clause = 0; clause < clauses; clause++) {
-                if (deeds[clause] == deed && bit(among, clause) == 1
+                if (deeds[clause] == deed && bit(always, clause) == kind
                         && holds(clause, matter % PLACES, who, known, day)) {
                     bits |= 1 << clause;
                 }
@@ -853,19 +847,13 @@ public final class EarCode {
                     truths = truths >> 1 & (latest | ~1);
                 } else if (step == OR) {
                     truths = truths >> 1 | latest;
-                } else {
-                    truths = truths << 1 | (isAbove(step, place, who, known, day) ? 1 : 0);
+                } else if (step >= 0 && step + TERMS <= terms.length) {
+                    int sum = terms[step] + terms[step + PLACE_TERM] * place + terms[step + DAY_TERM] * day
+                            + terms[step + WHO_TERM] * who + terms[step + KNOWN_TERM] * known;
+                    truths = truths << 1 | (sum > 0 ? 1 : 0);
                 }
             }
             return (truths & 1) == 1;
-        }
-
-        private boolean isAbove(int from, int place, int who, int known, int day) {
-            if (from < 0 || from + TERMS > terms.length) {
-                return false;
-            }
-            return terms[from] + terms[from + PLACE_TERM] * place + terms[from + DAY_TERM] * day
-                    + terms[from + WHO_TERM] * who + terms[from + KNOWN_TERM] * known > 0;
         }
     }
 
@@ -1393,7 +1381,7 @@ public final class EarCode {
 
         private boolean keepsFrom(Law law, int citizen) {
             int matter = matterAhead(citizen, 0);
-            int forbidding = law.forbidding(matter, citizen, knownBy(citizen), day);
+            int forbidding = law.bearing(false, matter, citizen, knownBy(citizen), day);
             if ((forbidding & knows[citizen]) != 0) {
                 return true;
             }
@@ -1402,7 +1390,7 @@ public final class EarCode {
 
         private void judge(Law law, int citizen, int free, int force) {
             int matter = matterAhead(citizen, 0);
-            int broken = force & law.forbidding(matter, citizen, knownBy(citizen), day);
+            int broken = force & law.bearing(false, matter, citizen, knownBy(citizen), day);
             if (broken == 0) {
                 return;
             }
@@ -1631,7 +1619,7 @@ public final class EarCode {
             if (citizen >= world.citizens || !world.isAlive(citizen) || matter >= MATTERS || taken > 1) {
                 return false;
             }
-            int forbidding = law.forbidding(matter, citizen, world.knownBy(citizen), world.day);
+            int forbidding = law.bearing(false, matter, citizen, world.knownBy(citizen), world.day);
             if (taken == 0) {
                 barred |= forbidding;
             } else {
@@ -1687,7 +1675,7 @@ public final class EarCode {
             int best = NONE;
             int least = 0;
             for (int matter = 0; matter < MATTERS; matter++) {
-                int forbidding = law.forbidding(matter, citizen, world.knownBy(citizen), world.day);
+                int forbidding = law.bearing(false, matter, citizen, world.knownBy(citizen), world.day);
                 int allowing = marks[all & ~forbidding];
                 int greater = Math.max(allowing, codes - allowing);
                 if (best == NONE || greater < least) {
@@ -1733,7 +1721,7 @@ public final class EarCode {
         private void foresee(int citizen, int later, int known, int n) {
             for (int ahead = 0; ahead < n && ahead < MOST_AHEAD; ahead++) {
                 int matter = world.matterAhead(citizen, later + ahead);
-                forbidding[ahead] = law.forbidding(matter, citizen, known, world.day + ahead);
+                forbidding[ahead] = law.bearing(false, matter, citizen, known, world.day + ahead);
             }
         }
 
@@ -1800,11 +1788,11 @@ public final class EarCode {
         }
 
         private int forbidding(int citizen, int matter) {
-            return law.forbidding(matter, citizen, world.knownBy(citizen), world.day);
+            return law.bearing(false, matter, citizen, world.knownBy(citizen), world.day);
         }
 
         private int demanding(int citizen, int matter) {
-            return law.demanding(matter, citizen, world.knownBy(citizen), world.day);
+            return law.bearing(true, matter, citizen, world.knownBy(citizen), world.day);
         }
 
         int forbiddenTo(int citizen, int matter) {
