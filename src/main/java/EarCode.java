@@ -632,17 +632,19 @@ public final class EarCode {
         void split(Tape tape) {
             things = 0;
             at = 0;
-            int to = 0;
-            for (int from = 0; from < tape.size; from = to) {
-                to = from + 1;
-                if (tape.isLetter(from)) {
-                    to = endOfWord(tape, from);
-                    put(wordNumber(tape, from, to), from, to, 0);
-                } else if (tape.isDigit(from)) {
-                    to = endOfNumber(tape, from);
-                    put(NUMBER, from, to, valueOf(tape, from, to));
-                } else if (tape.bytes[from] != ' ') {
-                    put(tape.bytes[from] > WRONG ? tape.bytes[from] : WRONG, from, to, 0);
+            for (int i = 0; i < tape.size; i++) {
+                if (tape.isLetter(i)) {
+                    if (!tape.isLetter(i - 1)) {
+                        int to = endOfWord(tape, i);
+                        put(wordNumber(tape, i, to), i, to, 0);
+                    }
+                } else if (tape.isDigit(i)) {
+                    if (!tape.isDigit(i - 1)) {
+                        int to = endOfNumber(tape, i);
+                        put(NUMBER, i, to, valueOf(tape, i, to));
+                    }
+                } else if (tape.bytes[i] != ' ') {
+                    put(Math.max(tape.bytes[i], WRONG), i, i + 1, 0);
                 }
             }
             put(END, tape.size, tape.size, 0);
