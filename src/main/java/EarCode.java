@@ -1233,7 +1233,7 @@ public final class EarCode {
         }
 
         /** A CITIZEN more, without a HABIT yet: the number; NONE without room. */
-        int addCitizen(int courage) {
+        int addCitizen(int fearOfOne) {
             int citizen = citizens;
             if (citizen >= MOST_CITIZENS) {
                 return NONE;
@@ -1241,7 +1241,7 @@ public final class EarCode {
             citizens++;
             living |= 1 << citizen;
             knows[citizen] = 0;
-            fear[citizen] = courage;
+            fear[citizen] = fearOfOne;
             taken[citizen] = 0;
             spouse[citizen] = NONE;
             habitSize[citizen] = 0;
