@@ -521,7 +521,7 @@ public final class QuestionTest extends Check {
         x.die(0);
         x.die(1);
         x.undo();
-        x.baby(0 + 1);
+        x.baby(1);
         is("0 is dead, 1 not", x.citizen(0, 0) * 10 + x.citizen(1, 0), 1);
         x.undo();
         is("the baby is undone", x.count(1), 2);
