@@ -238,6 +238,9 @@ public final class DayTest extends Check {
         is("dead", y.citizen(0, 0), 0);
         y.die(1);
         is("who has none dies, too", y.count(2), 1);
+        y.days(5);
+        is("no days of the dead go on", y.citizen(0, 3) + y.citizen(1, 3), 0);
+        is("nor are they taken", y.count(6), 0);
         says("two are WED: both KNOW what either KNOWS");
         is("wed", x.wed(0, 1), 2);
         is("both", x.citizen(0, 1), 2);

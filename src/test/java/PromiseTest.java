@@ -1,81 +1,5 @@
-import java.nio.charset.StandardCharsets;
-import java.util.NoSuchElementException;
-
 /** For each promise of the document: ordinary inputs, its edges, wrong inputs, with answers worked out by hand. */
-public final class PromiseTest {
-    private static final Class<? extends RuntimeException> INDEX = IndexOutOfBoundsException.class;
-    private static final Class<? extends RuntimeException> ARGUMENT = IllegalArgumentException.class;
-    private static final Class<? extends RuntimeException> STATE = IllegalStateException.class;
-    private static final Class<? extends RuntimeException> ELEMENT = NoSuchElementException.class;
-    private static final Class<? extends RuntimeException> UNSUPPORTED = UnsupportedOperationException.class;
-
-    private static int wrong = 0;
-    private static int promise = 0;
-
-    private static void is(String what, long got, long want) {
-        if (got != want) {
-            wrong++;
-            System.out.println("promise " + promise + ": " + what + " answered " + got + ", due is " + want);
-        }
-    }
-
-    private static void is(String what, boolean got, boolean want) {
-        is(what, got ? 1 : 0, want ? 1 : 0);
-    }
-
-    private static void fails(String what, Class<? extends RuntimeException> want, Runnable call) {
-        try {
-            call.run();
-            wrong++;
-            System.out.println("promise " + promise + ": " + what + " did not throw " + want.getSimpleName());
-        } catch (RuntimeException e) {
-            if (e.getClass() != want) {
-                wrong++;
-                System.out.println("promise " + promise + ": " + what + " threw " + e + ", due is " + want.getSimpleName());
-            }
-        }
-    }
-
-    private static void tape(EarCode x, byte[] bytes) {
-        x.end(0);
-        for (int from = 0; from < bytes.length; from += 20) {
-            int[] five = new int[5];
-            for (int i = 0; i < 20; i++) {
-                int b = from + i < bytes.length ? bytes[from + i] & 255 : 0;
-                five[i / 4] |= b << 24 - 8 * (i % 4);
-            }
-            x.feed(five[0], five[1], five[2], five[3], five[4]);
-        }
-        if (!x.end(bytes.length)) {
-            throw new Error("the test's tape is too long");
-        }
-    }
-
-    private static void tape(EarCode x, String text) {
-        tape(x, text.getBytes(StandardCharsets.ISO_8859_1));
-    }
-
-    private static void watched(EarCode x, int... rows) {
-        byte[] bytes = new byte[rows.length];
-        for (int i = 0; i < rows.length; i++) {
-            bytes[i] = (byte) rows[i];
-        }
-        tape(x, bytes);
-    }
-
-    private static EarCode make(String code, String... republic) {
-        EarCode x = new EarCode();
-        if (code != null) {
-            tape(x, code);
-            x.code();
-        }
-        for (String text : republic) {
-            tape(x, text);
-            x.republic();
-        }
-        return x;
-    }
-
+public final class PromiseTest extends Check {
     private static void badCode(String text, int fault) {
         EarCode x = new EarCode();
         tape(x, text);
@@ -113,10 +37,6 @@ public final class PromiseTest {
             x.days(1);
         }
         return x.matter(matter, citizen, 0) == 1;
-    }
-
-    private static String repeat(String s, int n) {
-        return s.repeat(n);
     }
 
     private static void newObject() {
@@ -613,16 +533,6 @@ public final class PromiseTest {
         is("no cover", make("never 0", "citizen fear 0 does 00").cover(), 0);
     }
 
-    private static int readOf(EarCode x, int what, int... rows) {
-        watched(x, rows);
-        return x.read(what);
-    }
-
-    private static int nextOf(EarCode x, int citizen, int... rows) {
-        watched(x, rows);
-        return x.next(citizen);
-    }
-
     private static void reading() {
         promise = 20;
         EarCode x = make("never 1;never 1 if place > 3;always 1;never 2 if known < 1;never 1 if who > 0",
@@ -1103,9 +1013,6 @@ public final class PromiseTest {
         images();
         counts();
         is("NONE", EarCode.NONE, -1);
-        System.out.println(wrong == 0 ? "all promises hold" : wrong + " answers are wrong");
-        if (wrong != 0) {
-            System.exit(1);
-        }
+        end("all promises hold");
     }
 }

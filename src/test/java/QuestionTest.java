@@ -59,12 +59,21 @@ public final class QuestionTest extends Check {
         EarCode last = make(repeat("never 3;", 11) + "always 3", ONE);
         is("the last with all others", last.clause(11, 4), 2047);
         is("the first with the last", last.clause(0, 4), 2048);
+        EarCode wide = make("never 7;always 7 if place<1;always 7 if place>6;never 7 if place>0;always 7", ONE);
+        is("at several places", wide.clause(0, 4), 2 | 4 | 16);
+        is("at several places, of an always one", wide.clause(4, 4), 1 | 8);
         says("RELIEF: the fewest CLAUSES that must be none, so that no two left CONTRADICT: of several the least as bits.");
         is("one always against eleven", last.relief(), 2048);
         is("one against one: the least", make("always 3;never 3", ONE).relief(), 1);
         is("two against two: the least", make("never 3;always 3;never 3;always 3", ONE).relief(), 5);
         is("six pairs", make("never 0;always 0;never 1;always 1;never 2;always 2;never 3;always 3;never 4;always 4;never 5;always 5", ONE).relief(), 0x555);
         is("none contradicts", two.relief(), 0);
+        EarCode fewer = make("never 1 if who>0;always 1;never 2;always 2 if feast", ONE + ";" + ONE);
+        is("both pairs", fewer.relief(), 5);
+        fewer.die(1);
+        is("when 1 is dead", fewer.relief(), 4);
+        fewer.days(1);
+        is("when it is no feast", fewer.relief(), 0);
         is("nobody", make("never 0;always 0").relief(), 0);
         is("no code", new EarCode().relief(), 0);
     }
@@ -95,6 +104,10 @@ public final class QuestionTest extends Check {
         is("none of twelve", readOf(make(TWELVE, ONE), 0, 0, 0, 0), 1);
         is("of always clauses none", readOf(make("always 1", ONE), 0), 1);
         is("of no code the empty one", readOf(new EarCode(), 0), 1);
+        is("two taken by two clauses: of 0, 4 and of 0, 1 one at least", readOf(x, 0, 0, 12, 1, 1, 8, 1), 10);
+        is("and a third", readOf(x, 0, 0, 12, 1, 1, 8, 1, 1, 16, 1), 5);
+        is("two not taken", readOf(x, 0, 0, 8, 0, 1, 16, 0), 4);
+        is("three not taken", readOf(x, 0, 0, 12, 0, 1, 16, 0, 1, 8, 0), 1);
         says("SURE: CLAUSES in all of them, as bits");
         is("nothing", readOf(x, 1), 0);
         is("3 of 1 at deed 2", readOf(x, 1, 1, 16, 1), 8);
@@ -113,6 +126,7 @@ public final class QuestionTest extends Check {
         is("of 1", nextOf(x, 1), 16);
         is("behind 0's", nextOf(x, 1, 0, 12, 0), 8);
         is("the last matter", nextOf(make("never 7 if place>6", ONE), 0), 63);
+        is("of twelve clauses", nextOf(make(repeat("never 0;", 11) + "never 7 if place>6", ONE), 0), 63);
         says("(of several the least MATTER; none with fewer than two CODES).");
         is("nothing splits: the least", nextOf(make("never 1 if who>0", ONE + ";" + ONE), 0), 0);
         is("two codes", nextOf(make("never 1", ONE), 0), 8);
@@ -157,6 +171,10 @@ public final class QuestionTest extends Check {
         is("0 when 2 is dead", z.dies(0), 1 | 2048);
         z.die(1);
         is("0 alone", z.dies(0), 1 | 32 | 2048);
+        EarCode lasts = make(TWELVE, ONE + " knows 0;" + ONE + " knows 0 3;" + repeat(ONE + ";", 7) + ONE + " knows 11 0");
+        is("1", lasts.dies(1), 8);
+        is("5", lasts.dies(5), 0);
+        is("9", lasts.dies(9), 2048);
         says("HEIRS for K (1 to 10): how often somebody must be TOLD in all, so that each CLAUSE IN FORCE is known by K ALIVE at least");
         EarCode h = make(TWELVE, ONE + " knows 0 1;" + ONE + " knows 0;" + ONE + " knows 0 2;" + ONE + " knows 3");
         h.die(3);
@@ -255,6 +273,11 @@ public final class QuestionTest extends Check {
         is("nobody", new EarCode().telling(60, false), -1);
         is("nobody: 0", new EarCode().telling(60, true), 0);
         says("by how much it is less than now (it may be below 0).");
+        EarCode now = make("never 1", "citizen fear 0 does 11 22;citizen fear 0 does 66 knows 0");
+        is("by the matter of today", now.telling(1, true), 1);
+        is("by two of three", now.telling(3, true), 2);
+        now.days(1);
+        is("not by that of tomorrow", now.telling(1, true), 0);
         is("by none", make("never 1", ONE + ";" + ONE + " knows 0").telling(5, true), 0);
         is("by all", nine.telling(60, true), 60);
         // Whoever is told 1 knows two, and does what 0 forbids to such; 0 is known by a citizen who does it not.
@@ -308,6 +331,7 @@ public final class QuestionTest extends Check {
         is("0 is known now, 7 forbids it to who knows two", x.deduced(0), 2 | 16 | 128);
         x.die(1);
         is("none is in force any more", x.deduced(0), 0);
+        is("0 is in force, but forbids nothing seen", make("never 0;never 1", ONE + ";" + ONE + " knows 0 1;seen 0 11").deduced(0), 2);
         says("HUSH of a DEED: PLACES at which nobody ALIVE MAY do it, as bits (0 without anybody).");
         EarCode h = make("never 7 if place<1;never 7 if place>6;never 0", ONE + " knows 0 1;" + ONE + " knows 0;" + ONE);
         is("2 may all", h.hush(7), 0);
@@ -318,6 +342,8 @@ public final class QuestionTest extends Check {
         is("not known", h.hush(0), 0);
         h.tell(0, 2);
         is("everywhere", h.hush(0), 255);
+        is("not the deed behind it", make("never 1", ONE + " knows 0").hush(0), 0);
+        is("nor the one ahead", make("never 1", ONE + " knows 0").hush(2), 0);
         h.die(0);
         is("without anybody", h.hush(0), 0);
         is("of an empty republic", new EarCode().hush(7), 0);
@@ -338,6 +364,8 @@ public final class QuestionTest extends Check {
         is("three", f.feared(true), 0);
         f.die(2);
         is("two", f.feared(true), 1L << 63 | 1L << 31);
+        is("not what 0 alone has not", make(null, ONE + ";" + ONE + ";seen 1 77").feared(true), 0);
+        is("not what the last alone has not", make(null, ONE + ";" + ONE + ";seen 0 77").feared(true), 0);
         says("by nobody.");
         is("two", f.feared(false), ~(1L << 63 | 1L << 31 | 1L));
         f.die(0);
@@ -442,30 +470,41 @@ public final class QuestionTest extends Check {
         is("nobody", new EarCode().trial(40, 3), 0);
     }
 
+    /** Of nine who break the code on one day, the fewest or the most that are taken, from these seeds. */
+    private static int extreme(int watch, int first, int last, boolean most) {
+        int best = -1;
+        for (int seed = first; seed <= last; seed++) {
+            int taken = 0;
+            int now = seed;
+            for (int i = 0; i < 9; i++) {
+                taken += draw(now) < watch ? 1 : 0;
+                now = drawn(now);
+            }
+            best = best < 0 ? taken : most ? Math.max(best, taken) : Math.min(best, taken);
+        }
+        return best;
+    }
+
     private static void spans() {
         says("SPAN: the fewest and the most TAKEN in such TRIALS from SEED 1, 2, .. 6.");
-        // A watch between the draws of the seeds: those below it are taken on the first day.
-        int least = 100;
-        int most = -1;
-        for (int seed = 1; seed <= 6; seed++) {
-            least = Math.min(least, draw(seed));
-            most = Math.max(most, draw(seed));
-        }
-        for (int watch : new int[] {least, least + 1, most, most + 1}) {
-            EarCode x = make("never 1", "citizen fear 0 does 11;citizen fear 0 does 66 knows 0;watch " + watch);
+        boolean[] matter = new boolean[8];
+        for (int watch = 0; watch <= 100; watch++) {
+            EarCode x = make("never 1", repeat("citizen fear 0 does 11;", 9) + "citizen fear 0 does 66 knows 0;watch " + watch);
             x.seed(99);
-            is("the fewest at " + watch, x.span(1, false), most < watch ? 1 : 0);
-            is("the most at " + watch, x.span(1, true), least < watch ? 1 : 0);
+            is("the fewest at " + watch, x.span(1, false), extreme(watch, 1, 6, false));
+            is("the most at " + watch, x.span(1, true), extreme(watch, 1, 6, true));
             is("the seed stays", x.seed(0), 99);
             is("days stay", x.count(4) + x.count(13), 0);
-        }
-        for (int seed : new int[] {0, 7}) {
-            boolean less = draw(seed) < least || draw(seed) > most;
-            if (less) {
-                EarCode x = make("never 1", "citizen fear 0 does 11;citizen fear 0 does 66 knows 0;watch " + Math.min(draw(seed) + 1, least));
-                is("not seed " + seed, x.span(1, true), 0);
+            int[][] others = {{0, 6, 0}, {1, 7, 7}, {1, 5, 6}, {2, 6, 1}};
+            for (int[] other : others) {
+                matter[other[2]] |= extreme(watch, other[0], other[1], false) != extreme(watch, 1, 6, false);
+                matter[other[2]] |= extreme(watch, other[0], other[1], true) != extreme(watch, 1, 6, true);
             }
         }
+        is("the seeds at the ends are told apart", matter[0] && matter[1] && matter[6] && matter[7], true);
+        EarCode again = make("never 1", "citizen fear 0 does 11;citizen fear 0 does 66 knows 0;term 1");
+        again.days(7);
+        is("those taken ahead do not count", again.span(2, false) + again.span(2, true), 2);
         EarCode y = make("never 1", "citizen fear 0 does 11;citizen fear 0 does 66 knows 0;term 1");
         is("0 days", y.span(0, false) + y.span(0, true), 0);
         is("40 days", y.span(40, false) + y.span(40, true), 40);
@@ -499,6 +538,17 @@ public final class QuestionTest extends Check {
         is("none", w.worst(), -1);
         w.days(1);
         is("most", w.worst(), 11);
+    }
+
+    /** A number for all rows of a log. */
+    private static int rowsOf(EarCode x) {
+        int sum = 0;
+        for (int ago = 0; ago < x.count(10); ago++) {
+            for (int what = 0; what < 4; what++) {
+                sum = sum * 31 + x.log(ago, what);
+            }
+        }
+        return sum;
     }
 
     private static void goingBack() {
@@ -547,6 +597,13 @@ public final class QuestionTest extends Check {
         is("the image", y.back(), true);
         is("its day", y.count(4), 1);
         is("its seed", y.seed(0), 6);
+        EarCode full = make("never 1;never 2", "citizen fear 0 does 11;citizen fear 0 does 22;" + repeat("citizen fear 0 does 11;", 7) + "citizen fear 0 does 66 knows 0 1;term 1");
+        full.days(14);
+        int oldest = rowsOf(full);
+        full.days(1);
+        is("a full log goes on", rowsOf(full) != oldest, true);
+        full.undo();
+        is("all its rows are back", rowsOf(full), oldest);
         says("A text, going back: none are remembered.");
         EarCode z = make(null, "citizen fear 0 does 11");
         z.days(1);
@@ -587,6 +644,18 @@ public final class QuestionTest extends Check {
         is("what it told", i.count(12), 9);
         is("once more", i.back(), true);
         is("its term", i.count(12), 3);
+        EarCode log = make("never 1;never 2", "citizen fear 0 does 11;citizen fear 0 does 22;citizen fear 0 does 66 knows 0 1");
+        log.die(1);
+        log.days(1);
+        log.image();
+        int rows = rowsOf(log);
+        log.undo();
+        log.undo();
+        log.die(0);
+        log.days(1);
+        is("another log", rowsOf(log) != rows, true);
+        log.back();
+        is("its log", rowsOf(log), rows);
         is("its texts", i.count(3), 1);
     }
 

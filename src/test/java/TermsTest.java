@@ -1,6 +1,8 @@
 /** The document's first part, "Terms" up to ==== 2.: what there is, and the texts that tell it, sentence by sentence. */
 public final class TermsTest extends Check {
     private static final String ONE = "citizen fear 0 does 00";
+    private static final String THINGS = "never always if or and not feast place day who known citizen fear does knows watch term"
+            + " harm wed seen 11 ; ( ) < > +";
 
     /** The first wrong byte of a code's text told to a new object; -1 if it is right. */
     private static int codeFault(String text) {
@@ -223,6 +225,17 @@ public final class TermsTest extends Check {
         says("C: ALL { or ALL }; ALL: ATOM { and ATOM }");
         String yes = "1>0";
         String no = "0>1";
+        for (int day = 0; day < 2; day++) {
+            boolean feast = day == 0;
+            is("or feast", holds("0>1 or feast", 0, 0, day), feast);
+            is("or feast, anyway", holds("1>0 or feast", 0, 0, day), true);
+            is("and feast", holds("1>0 and feast", 0, 0, day), feast);
+            is("and feast, never", holds("0>1 and feast", 0, 0, day), false);
+            is("feast or", holds("feast or 0>1", 0, 0, day), feast);
+            is("feast and", holds("feast and 1>0", 0, 0, day), feast);
+            is("or feast and", holds("1>0 or feast and 0>1", 0, 0, day), true);
+            is("and feast or", holds("1>0 and feast or 0>1", 0, 0, day), feast);
+        }
         for (int bits = 0; bits < 8; bits++) {
             String a = (bits & 1) != 0 ? yes : no;
             String b = (bits & 2) != 0 ? yes : no;
@@ -258,6 +271,12 @@ public final class TermsTest extends Check {
         is("on the right", holds("13 < place+day+who+known+4", 3, 2, 4), true);
         is("on both", holds("place+place+day < place+3", 1, 0, 1), true);
         is("on both, not", holds("place+place+day < place+3", 2, 0, 1), false);
+        is("a part twice: place", holds("place+place>5", 3, 0, 0), true);
+        is("a part twice: day", holds("day+day>5", 0, 0, 3), true);
+        is("a part twice: who", holds("who+who>3", 0, 2, 0), true);
+        is("a part twice: known", holds("known+known>3", 0, 0, 0), true);
+        is("a part on both sides", holds("day+who+known<known+who+day+1", 0, 2, 3), true);
+        is("a part more on the right", holds("who+known<who+known+who+known", 0, 2, 0), true);
         is("a + ahead", codeFault("never 1 if +1<2"), 11);
         is("a + behind", codeFault("never 1 if 1+<2"), 13);
         is("no part feast", codeFault("never 1 if 1+feast<2"), 13);
@@ -492,8 +511,70 @@ public final class TermsTest extends Check {
         }
     }
 
+    /** Of all things just these can stand behind the text. */
+    private static void canStand(boolean code, String text, String fine) {
+        for (String thing : THINGS.split(" ")) {
+            boolean can = (" " + fine + " ").contains(" " + thing + " ");
+            int fault = code ? codeFault(text + " " + thing) : republicFault(text + " " + thing);
+            if (can) {
+                is(thing + " can stand behind " + text, fault == -1 || fault == text.length() + 1 + thing.length(), true);
+            } else {
+                is(thing + " cannot stand behind " + text, fault, text.length() + 1);
+            }
+        }
+    }
+
+    private static void whatCanStand() {
+        String atoms = "not feast place day who known 11 (";
+        canStand(true, "", "never always");
+        canStand(true, "never", "");
+        canStand(true, "always", "");
+        canStand(true, "never 1", "if ;");
+        canStand(true, "never 1;", "never always");
+        canStand(true, "never 1 if", atoms);
+        canStand(true, "never 1 if not", atoms);
+        canStand(true, "never 1 if (", atoms);
+        canStand(true, "never 1 if feast", "or and ;");
+        canStand(true, "never 1 if not feast", "or and ;");
+        canStand(true, "never 1 if feast or", atoms);
+        canStand(true, "never 1 if feast and", atoms);
+        canStand(true, "never 1 if (feast", "or and )");
+        canStand(true, "never 1 if (feast)", "or and ;");
+        canStand(true, "never 1 if place", "< > +");
+        canStand(true, "never 1 if 1", "< > +");
+        canStand(true, "never 1 if place+", "place day who known 11");
+        canStand(true, "never 1 if place<", "place day who known 11");
+        canStand(true, "never 1 if place>", "place day who known 11");
+        canStand(true, "never 1 if place<who", "+ or and ;");
+        canStand(true, "never 1 if (place<who", "+ or and )");
+        canStand(false, "", "citizen watch term harm wed seen");
+        canStand(false, "watch 1;", "citizen watch term harm wed seen");
+        canStand(false, "citizen", "fear");
+        canStand(false, "citizen fear", "11");
+        canStand(false, "citizen fear 1", "does");
+        canStand(false, "citizen fear 1 does", "11");
+        canStand(false, ONE, "11 knows ;");
+        canStand(false, "citizen fear 0 does 00 01 02 03 04 05", "knows ;");
+        canStand(false, ONE + " knows", "");
+        canStand(false, ONE + " knows 1", ";");
+        canStand(false, "watch", "11");
+        canStand(false, "watch 1", ";");
+        canStand(false, "term", "11");
+        canStand(false, "term 1", ";");
+        canStand(false, "harm", "");
+        canStand(false, "harm 1", "11");
+        canStand(false, "harm 1 1", ";");
+        canStand(false, "wed", "");
+        canStand(false, ONE + ";wed 3", "");
+        canStand(false, ONE + ";wed 3 4", ";");
+        canStand(false, "seen", "");
+        canStand(false, "seen 3", "11");
+        canStand(false, "seen 3 11", ";");
+    }
+
     private static void wrongBytes() {
         says("The first wrong byte: the begin of the first thing that cannot stand there");
+        whatCanStand();
         is("of two wrong things", codeFault("never 8 if what"), 6);
         is("of a right thing where it cannot stand", codeFault("never 1 or feast"), 8);
         is("a word of the republic", codeFault("watch 1"), 0);
@@ -571,6 +652,24 @@ public final class TermsTest extends Check {
         is("another may be told", codeOf(y, "always 3"), 1);
         is("its deed", y.clause(0, 1), 3);
         is("its kind", y.clause(0, 0), 1);
+        EarCode z = new EarCode();
+        for (int i = 0; i < 40; i++) {
+            fails("a long one", ARGUMENT, () -> codeOf(z, "always 1 if " + repeat("place>5 or ", 34) + "feast;"));
+        }
+        is("a right one as long", codeOf(z, "never 1 if " + repeat("place>6 or ", 34) + "feast"), 1);
+        republicOf(z, ONE + " knows 0");
+        is("a never one", z.clause(0, 0), 0);
+        z.days(1);
+        is("its condition holds", z.matter(15, 0, 0), 1);
+        is("its condition does not", z.matter(14, 0, 0), 0);
+        EarCode w = new EarCode();
+        fails("one with conditions", ARGUMENT, () -> codeOf(w, "always 1 if place>6 and not feast or who>5;always 2 if who>9;"));
+        is("one without", codeOf(w, "never 1;never 2 if place>5"), 2);
+        republicOf(w, ONE + " knows 0 1");
+        is("the first holds everywhere", w.matter(8, 0, 0), 1);
+        is("the second from 6 on", w.matter(22, 0, 0), 2);
+        is("the second not at 5", w.matter(21, 0, 0), 0);
+        is("none demands", w.matter(8, 0, 1), 0);
     }
 
     public static void main(String[] args) {
