@@ -965,6 +965,70 @@ public final class CallTest extends Check {
         }
     }
 
+    /** Twelve clauses, ten citizens with six matters each who know all but one of them and have seen things. */
+    private static EarCode full() {
+        EarCode x = make(repeat("never 0;always 0;never 7;always 7 if feast;", 2) + "never 0;never 7 if place>6;never 7 if who>8;never 1");
+        for (int c = 0; c < 10; c++) {
+            republicOf(x, "citizen fear 100 does 77 00 77 00 77 70 knows 0 1 2 3 4 5 6 7 8 9 10" + (c == 9 ? " 11" : "") + ";seen " + c + " 77");
+        }
+        for (int c = 0; c < 10; c += 2) {
+            x.wed(c, c + 1);
+        }
+        return x;
+    }
+
+    /** What is full in all it has answers each call, up to the last citizen, clause, matter, deed, place. */
+    private static void fullRepublic() {
+        EarCode x = full();
+        is("citizens", x.count(1), 10);
+        is("clauses", x.count(0), 12);
+        is("in force", x.count(5), 4095);
+        is("who knows the last", x.clause(11, 3), 768);
+        is("contradicted", x.clause(1, 4), 1 | 16 | 256);
+        is("relief", x.relief(), 2 | 8 | 32 | 128);
+        is("nobody", x.nobody(), 131);
+        is("cover", x.cover(), 256);
+        is("dies with 9", x.dies(9), 0);
+        is("heirs", x.heirs(10), 8);
+        is("risk", x.risk(9, 60), 0);
+        is("better", x.better(9, 60), 0);
+        is("telling: nothing is less", x.telling(60, false) * 10 + x.telling(60, true), 110);
+        is("safe", x.safe(9, 7), -1);
+        is("deduced", x.deduced(9), 0);
+        is("hush", x.hush(7), 255);
+        is("usual at 7", x.usual(7), 7);
+        is("usual at 0", x.usual(0), 0);
+        is("feared", x.feared(true), Long.MIN_VALUE);
+        is("by nobody", x.feared(false), Long.MAX_VALUE);
+        is("custom", x.custom(30), 10);
+        is("settles", x.settles(), 0);
+        is("provoked", x.provoked(9, false) * 10 + x.provoked(9, true), -11);
+        is("crowd", x.crowd(7, 60), 1023);
+        is("witnesses", x.witnesses(8, 9, 60), 60);
+        is("trial", x.trial(40, 0) + x.trial(40, 1) + x.trial(40, 2), 0);
+        is("seen in it", x.trial(40, 3), 10);
+        is("span", x.span(40, true), 0);
+        is("first", x.first(), -1);
+        is("days", x.days(50), 0);
+        is("kept", x.count(9), 500);
+        is("read", readOf(x, 0, 9, 63, 1), (1 << 8) - (1 << 4));
+        is("next", nextOf(x, 9, 9, 63, 1), 8);
+        is("led", x.led(9) + x.led(-1), 0);
+        is("worst", x.worst(), -1);
+        fails("a baby more", UNSUPPORTED, () -> x.baby(9));
+        is("what dies with all but 9", dieAllBut(x, 9), 0);
+        is("the widowed one", x.citizen(9, 4), -1);
+        is("what dies with 9", x.die(9), 4095);
+    }
+
+    private static int dieAllBut(EarCode x, int left) {
+        int gone = 0;
+        for (int c = 0; c < 10; c++) {
+            gone |= c == left ? 0 : x.die(c);
+        }
+        return gone;
+    }
+
     private static void exceptions() {
         promise = 0;
         part("THE IMAGE itself). ", "## Promise 1:");
@@ -1007,6 +1071,7 @@ public final class CallTest extends Check {
     }
 
     public static void main(String[] args) {
+        fullRepublic();
         newObject();
         tapes();
         texts();

@@ -268,7 +268,11 @@ public final class DayTest extends Check {
             z.baby(1);
         });
         is("a baby of a baby", z.baby(2), 3);
-        is("of one matter", make(null, "citizen fear 3 does 07").baby(0), 1);
+        EarCode small = make(null, "citizen fear 3 does 07");
+        is("of one matter", small.baby(0), 1);
+        is("it has one, too", small.citizen(1, 5), 1);
+        is("that one", small.habit(1, 0), 7);
+        is("no second", small.habit(1, 1), -1);
         says("one is set free");
         EarCode f = make("never 1", "citizen fear 0 does 11;" + KNOWER + ";term 30");
         f.days(1);

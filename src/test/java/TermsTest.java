@@ -588,6 +588,9 @@ public final class TermsTest extends Check {
         is("of a sum", codeFault("never 1 if place < 1000"), 19);
         is("of a deed", codeFault("never 0000"), 6);
         is("400", codeFault(repeat("1", 400)), 0);
+        is("400 signs", codeFault(repeat("(", 400)), 0);
+        is("400 signs that part lines", republicFault(repeat(";", 400)), 0);
+        is("100 words and numbers", codeFault(repeat("or11", 100)), 0);
         is("390", codeFault("never 1 if " + repeat("0", 389)), 11);
         is("of a fear", republicFault("citizen fear 0000 does 00"), 13);
         is("of a matter", republicFault("citizen fear 0 does 00 0000"), 23);
