@@ -34,6 +34,9 @@ class Check {
     static void part(String behind, String ahead) {
         endPart();
         String all = document();
+        if (all.isEmpty()) {
+            return;
+        }
         int from = all.indexOf(behind);
         int to = from < 0 ? -1 : all.indexOf(ahead, from + behind.length());
         if (to < 0) {
@@ -59,6 +62,9 @@ class Check {
     static void says(String words) {
         endQuote();
         quote = words;
+        if (document().isEmpty()) {
+            return;
+        }
         int at = part.indexOf(words);
         if (at < 0) {
             fault("these are not the document's words");
@@ -96,12 +102,13 @@ class Check {
         said = new boolean[0];
     }
 
+    /** The document on one line; empty if it cannot be read: then the checks stand without their quotes. */
     private static String document() {
         if (document == null) {
             try {
                 document = Files.readString(DOCUMENT).replace("```text", " ").replace("```", " ").replaceAll("\\s+", " ");
             } catch (IOException e) {
-                fault("the document cannot be read: " + e);
+                System.out.println("no quote is looked up, as the document cannot be read: " + e);
                 document = "";
             }
         }
