@@ -1272,10 +1272,10 @@ public final class EarCode {
             living &= ~(1 << citizen);
             taken[citizen] = 0;
             int widowed = spouse[citizen];
-            if (widowed != NONE) {
+            if (isThere(widowed)) {
                 spouse[widowed] = NONE;
-                spouse[citizen] = NONE;
             }
+            spouse[citizen] = NONE;
         }
 
         void marry(int citizen, int other) {
@@ -1283,6 +1283,11 @@ public final class EarCode {
             spouse[other] = citizen;
             knows[citizen] |= knows[other];
             knows[other] = knows[citizen];
+        }
+
+        /** Also of a SPOUSE, who may be NONE. */
+        boolean isThere(int citizen) {
+            return citizen >= 0 && citizen < citizens;
         }
 
         boolean isAlive(int citizen) {
@@ -1313,7 +1318,7 @@ public final class EarCode {
 
         int pooledBy(int citizen) {
             int other = spouse[citizen];
-            return other == NONE ? knows[citizen] : knows[citizen] | knows[other];
+            return isThere(other) ? knows[citizen] | knows[other] : knows[citizen];
         }
 
         int inForce() {

@@ -49,12 +49,17 @@ public final class FaceTest {
         return s.toString();
     }
 
-    private static void checkFace() {
-        Set<String> due = new TreeSet<>(Arrays.asList(FACE));
+    private static Set<String> names() {
         Set<String> names = new TreeSet<>();
         for (String row : FACE) {
             names.add(row.split(" ")[1]);
         }
+        return names;
+    }
+
+    private static void checkFace() {
+        Set<String> due = new TreeSet<>(Arrays.asList(FACE));
+        Set<String> names = names();
         for (Method m : EarCode.class.getDeclaredMethods()) {
             if (Modifier.isPublic(m.getModifiers())) {
                 if (!due.remove(told(m)) || Modifier.isStatic(m.getModifiers())) {
@@ -93,6 +98,11 @@ public final class FaceTest {
         for (Class<?> c : inside) {
             if (!Modifier.isStatic(c.getModifiers()) || Modifier.isPublic(c.getModifiers())) {
                 fault("a class inside is static and not public: " + c);
+            }
+            for (Method m : c.getDeclaredMethods()) {
+                if (names().contains(m.getName())) {
+                    fault("a method inside with a public name: " + m);
+                }
             }
             checkSize(c);
         }
